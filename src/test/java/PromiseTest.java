@@ -309,6 +309,8 @@ public final class PromiseTest {
             Check.due("asked again: reaches", map.reach(3, 3) + map.reach(12, 8), 192);
             Check.due("asked again: farthest", map.farthest(), 73);
             Check.due("asked again: within", map.within(0), 2);
+            Check.due("asked again: edges", map.edges(), 18);
+            Check.due("asked again: total", map.total(), 4156);
             Check.due("asked again: mark", map.mark(3, 3), 0);
             Check.due("asked again: clear", map.clear(4, 4), 0);
         }
